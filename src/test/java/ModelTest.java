@@ -3,7 +3,7 @@
  * The calls come from a fixed arithmetic sequence, so that every run of the test is the same.
  */
 public final class ModelTest {
-    private static final int RUNS = 600;
+    private static final int RUNS = 300;
     private static final int CALLS = 512;
     // More rounds than 10 states can need: each that changes anything makes one class more.
     private static final int ROUNDS = 15;
@@ -53,9 +53,9 @@ public final class ModelTest {
         int keep = 1 + pick(6);
         int palette = 1 + pick(4);
         for (int call = 0; call < CALLS; call++) {
-            alikeAfter = null;
             if (pick(3) == 0) {
                 change(run, x, keep, palette);
+                alikeAfter = null;
             } else {
                 ask(run, x);
             }
